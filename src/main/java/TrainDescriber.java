@@ -962,7 +962,7 @@ public final class TrainDescriber {
             for (int b = 0; b < BERTHS; b++) {
                 int bits = names[b] == 0 ? 0 : berthsOf(names[b]);
                 // Each name is counted where it stands lowest.
-                if (Integer.bitCount(bits) > 1 && Integer.numberOfTrailingZeros(bits) == b) {
+                if (Integer.bitCount(bits) > 1 && (bits & -bits) == 1 << b) {
                     many++;
                 }
             }
@@ -1580,6 +1580,8 @@ public final class TrainDescriber {
 
     private static final class Timetable {
         static final int ROOM = 40;
+        /** More than any two minutes are apart. */
+        static final int FAR = TOP_MINUTE + 1;
 
         int rows;
         final int[] names = new int[ROOM];
@@ -1609,13 +1611,13 @@ public final class TrainDescriber {
         /** The minute due at a berth that is next to one, of two the earlier; NONE without. */
         int nextMinute(int name, int berth, int minute) {
             int best = NONE;
+            int bestApart = FAR;
             for (int i = 0; i < rows; i++) {
-                if (names[i] == name && berths[i] == berth) {
-                    int apart = Math.abs(minutes[i] - minute);
-                    int bestApart = best == NONE ? Integer.MAX_VALUE : Math.abs(best - minute);
-                    if (apart < bestApart || apart == bestApart && minutes[i] < best) {
-                        best = minutes[i];
-                    }
+                int apart = Math.abs(minutes[i] - minute);
+                boolean isNext = apart < bestApart || apart == bestApart && minutes[i] < best;
+                if (names[i] == name && berths[i] == berth && isNext) {
+                    best = minutes[i];
+                    bestApart = apart;
                 }
             }
             return best;
@@ -1624,7 +1626,7 @@ public final class TrainDescriber {
         /** The berth of the row due in a station next to a minute, of two the earlier told; NONE without. */
         int nextBerth(int name, int station, int[] stationAt, int minute) {
             int best = NONE;
-            int bestApart = Integer.MAX_VALUE;
+            int bestApart = FAR;
             for (int i = 0; i < rows; i++) {
                 int apart = Math.abs(minutes[i] - minute);
                 if (names[i] == name && stationAt[berths[i]] == station && apart < bestApart) {
