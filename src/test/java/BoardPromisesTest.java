@@ -396,6 +396,9 @@ public final class BoardPromisesTest {
         due("16 that one", 1, x.held(20, 7, 15));
         due("16 a clear one", 0, x.held(20, 0, 4));
         due("16 edges", 0, x.held(9999, 9999, -1));
+        x.event(15, 0, 1);
+        due("16 track 0", 1, x.held(17, 1, 0));
+        due("16 track 0", 3, x.held(17, 1, -1));
         int[][] wrong = {{-1, 0, -1}, {10000, 0, -1}, {0, -1, -1}, {0, 10000, -1}, {0, 0, -2}, {0, 0, 16}, {0, 0, MIN}};
         for (int[] w : wrong) {
             due("16 wrong", -1, x.held(w[0], w[1], w[2]));

@@ -176,7 +176,7 @@ public final class ImagePromisesTest {
             case 14 -> x.link(b, r.nextInt(12), r.nextInt(61));
             case 15 -> x.train(name);
             case 16 -> x.start(r.nextInt(3), b, r.nextInt(5));
-            case 17 -> x.see(x.count(5) * 3, r.nextInt(4), r.nextInt(40));
+            case 17 -> x.see(x.count(5) * 3 + r.nextInt(20), r.nextInt(4), r.nextInt(40));
             case 18 -> x.due(name, b, r.nextInt(60));
             case 19 -> x.station(b, r.nextInt(7) - 1);
             case 20 -> x.clock(r.nextInt(3), r.nextInt(61) - 30);

@@ -213,6 +213,7 @@ public final class MendPromisesTest {
         x.see(50, 0, 0);
         x.see(60, 0, 0);
         x.link(0, 1, 1);
+        due("35 a start behind", -1, x.mend(1));
         x.lies(99, 0);
         due("37", 2, x.clear());
         due("56 not told by clear", -1, x.status());

@@ -68,6 +68,13 @@ public final class NamesPromisesTest {
         due("39 where it is not due", 5, x.delay(5));
         x.cancel(41, 5);
         due("39 though it is gone", 5, x.delay(5));
+        x.interpose(50, 9, 3);
+        x.due(3, 9, 40);
+        x.due(3, 9, 60);
+        due("39 of two the earlier minute, though told first", 10, x.delay(3));
+        x.due(3, 9, 55);
+        x.due(3, 9, 30);
+        due("39 an earlier one that is farther", -5, x.delay(3));
         // A name of a split does not count for the delay.
         x.interpose(50, 0, 7);
         x.due(8, 1, 50);
@@ -248,11 +255,13 @@ public final class NamesPromisesTest {
         }
         TrainDescriber y = new TrainDescriber();
         due("45 no timetable", 0, y.lost(9999, 0, 0));
-        for (int i = 0; i < 40; i++) {
+        for (int i = 0; i < 39; i++) {
             y.due(999 - i, 0, 0);
         }
+        y.due(1, 0, 0);
         due("45 forty", 40, y.lost(0, 0, 0));
-        due("45 forty", 960, y.lost(0, 1, 0));
+        due("45 forty", 1, y.lost(0, 1, 0));
+        due("45 forty", 961, y.lost(0, 1, 1));
         due("45 forty", 999, y.lost(0, 1, 39));
         due("45 forty", -1, y.lost(0, 1, 40));
     }
@@ -317,7 +326,9 @@ public final class NamesPromisesTest {
         TrainDescriber x = new TrainDescriber();
         due("49 at first", 0, x.bad(0, 1));
         due("49 was", 1, x.bad(0, 1023));
-        due("49 was", 1023, x.bad(0, 4));
+        due("49 was", 1023, x.bad(0, 0));
+        due("49 status", 0, x.status());
+        due("49 was", 0, x.bad(0, 4));
         int[][] wrong = {{-1, 0}, {12, 0}, {0, -1}, {0, 1024}, {MIN, MAX}};
         for (int[] w : wrong) {
             due("49 wrong", -1, x.bad(w[0], w[1]));
@@ -346,6 +357,7 @@ public final class NamesPromisesTest {
                 due("50 log", rows[i][what], x.log(i, what));
             }
         }
+        due("50 in the same minute", 0, x.forget(6));
         due("50 again", 0, x.forget(8));
         due("50 minute", 8, x.count(8));
         due("50 status", 0, x.status());

@@ -126,6 +126,14 @@ public final class RunPromisesTest {
         due("27 no such", -1, x.swaps(1, -1));
         due("27 no such", -1, x.swaps(2, 0));
         due("27 no such", -1, x.swaps(-1, 0));
+        TrainDescriber z = new TrainDescriber();
+        Check.rules(z, "step 0 to 2 at drop 1; step 1 to 0 at drop 1; step 2 to 1 at drop 1");
+        z.interpose(0, 0, 7);
+        z.interpose(0, 1, 8);
+        Check.run(z, 1);
+        due("27 the first fault of all, and one that bobs", 2, z.swaps(0, 0));
+        due("27 the first fault of all", 0, z.swaps(1, 0));
+        due("27 one that bobs", 1, z.swaps(1, 1));
         // A name that ends elsewhere is shifted, yet no swap: the berths are not full in both.
         TrainDescriber y = new TrainDescriber();
         Check.rules(y, "step 0 to 1 at drop 1");
@@ -164,6 +172,17 @@ public final class RunPromisesTest {
         Check.run(x, 1, 2);
         due("29 one of each two, the lowest", 5, x.watch());
         due("29 asked again", 5, x.watch());
+        TrainDescriber all = new TrainDescriber();
+        StringBuilder text = new StringBuilder();
+        int[] row = new int[12];
+        for (int b = 0; b < 12; b++) {
+            all.interpose(0, b, 1 + b);
+            text.append(b == 0 ? "" : ";").append("clear ").append(b).append(" at drop ").append(b);
+            row[b] = b;
+        }
+        Check.rules(all, text.toString());
+        Check.run(all, row);
+        due("29 all of them", 4095, all.watch());
         Check.rules(x, "step 0 to 1 at drop 1; step 1 to 2 at drop 2; clear 9 at drop 2");
         Check.run(x, 1, 2);
         x.interpose(0, 11, 5);

@@ -83,6 +83,7 @@ public final class TextPromisesTest {
         good(1, "clear 11 at drop 15");
         good(1, "step 0 to 11 at pick 0 if signal 7");
         good(1, "   clear 1 at drop 1   ");
+        good(1, "step 0 to 11 at pick 0 if track 15 or signal 7 or full 11");
         good(1, "clear1at drop1");
         good(1, "step0to1at pick2if(full3)or not track4and signal5");
         good(2, "clear 1 at drop 1;clear 2 at pick 2");
@@ -104,6 +105,20 @@ public final class TextPromisesTest {
         bad(10, "step 0 to 12 at drop 1");
         bad(10, "step 0 to x at drop 1");
         bad(8, "clear 0 to 1 at drop 1");
+        bad(0, "xlear 0 at drop 1");
+        bad(5, "clear");
+        bad(7, "clear 0");
+        bad(9, "step 0 to");
+        bad(10, "clear 0 at");
+        bad(15, "clear 0 at drop");
+        bad(25, "clear 0 at drop 1 if full");
+        bad(31, "clear 0 at drop 1 if full 1 and");
+        bad(21, "clear 0 at drop 1 if fullz 1");
+        bad(21, "clear 0 at drop 1 if afull 1");
+        bad(25, "clear 0 at drop 1 if full{1");
+        bad(25, "clear 0 at drop 1 if full`1");
+        bad(26, "clear 0 at drop 1 if full /1");
+        bad(26, "clear 0 at drop 1 if full :1");
         bad(11, "clear 0 at up 1");
         bad(11, "clear 0 at dropp 1");
         bad(16, "clear 0 at drop 16");
