@@ -203,6 +203,15 @@ public final class MendPromisesTest {
         due("54 back", -1, x.mend(0));
         due("54 back", 2, x.count(5));
         due("54 back", 0, x.count(3));
+        TrainDescriber y = new TrainDescriber();
+        y.train(1);
+        y.start(0, 3, 9);
+        y.see(8, 3, 1);
+        y.image(0);
+        y.start(0, 3, 8);
+        due("35 a start in that minute", 0, y.mend(0));
+        y.back(0);
+        due("54 the start's minute is back", -1, y.mend(0));
     }
 
     private static void clear() {
