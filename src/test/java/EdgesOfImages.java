@@ -52,7 +52,7 @@ final class EdgesOfImages {
         x.link(1, 2, 60);
         x.train(13);
         x.start(0, 2, 6);
-        x.see(9, 3, 13);
+        x.see(9, 3, 39);
         x.due(30, 9, 12);
         x.clock(1, -3);
         x.clock(2, 5);

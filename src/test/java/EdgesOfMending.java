@@ -138,6 +138,7 @@ final class EdgesOfMending {
         due(-1, x.mend(1));
         x.link(0, 2, 7);
         due(1, x.mend(1));
+        rounds();
         // To the same berth in no minutes and in many, without a link.
         TrainDescriber y = new TrainDescriber();
         y.train(5);
@@ -199,6 +200,29 @@ final class EdgesOfMending {
         s.train(9);
         s.start(1, 11, 9999);
         due(1, s.mend(1));
+    }
+
+    /** A row of links through all berths, up and down: each berth is one to go through. */
+    private void rounds() {
+        for (int way : new int[] {1, 11, 5, 7}) {
+            TrainDescriber x = new TrainDescriber();
+            x.train(5);
+            for (int i = 0; i < 12; i++) {
+                x.link(i * way % 12, (i + 1) * way % 12, 1);
+            }
+            for (int from = 0; from < 12; from++) {
+                for (int far = 0; far < 12; far++) {
+                    int to = (from + far * way) % 12;
+                    x.start(0, from, 10);
+                    x.see(10 + far, to, 5);
+                    due(1, x.mend(1));
+                    x.start(0, from, 11);
+                    due(-1, x.mend(1));
+                    x.clear();
+                    x.train(5);
+                }
+            }
+        }
     }
 
     private void slips() {
@@ -443,6 +467,24 @@ final class EdgesOfMending {
         x.see(0, 1, 0);
         due(0, x.mended(0, 0));
         due(1, x.mended(1, 0));
+        // Each of three trains goes on from where it was seen itself; the first time the third is misread.
+        x.clear();
+        x.train(5);
+        x.train(6);
+        x.train(7);
+        x.see(0, 0, 5);
+        x.see(0, 1, 6);
+        x.see(0, 2, 99);
+        x.see(0, 2, 7);
+        x.see(1, 1, 6);
+        x.see(1, 2, 7);
+        x.see(1, 0, 5);
+        int[] row = {0, 1, 2, 2, 1, 2, 0};
+        due(1, x.mend(0));
+        for (int i = 0; i < row.length; i++) {
+            due(row[i], x.mended(i, 0));
+            due(1, x.mended(i, 1));
+        }
         // Fewest slips go ahead of a lower row.
         x.clear();
         x.train(5);
@@ -494,7 +536,13 @@ final class EdgesOfMending {
             x.see(50, 0, 6);
         }
         x.link(0, 1, 5);
+        due(1, x.mend(1));
+        due(0, x.mend(0));
+        x.start(1, 3, 100);
+        due(-1, x.mend(1));
         due(16, x.clear());
+        due(1, x.mend(1));
+        due(0, x.mend(0));
         due(0, x.count(5));
         due(0, x.count(4));
         due(1, x.count(3));

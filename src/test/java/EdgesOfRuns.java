@@ -128,6 +128,11 @@ final class EdgesOfRuns {
         ran(x, "step 0 to 1 at drop 1; step 0 to 1 at drop 2", names(), 1, 2);
         due(0, x.fails(0, 0));
         due(0, x.fails(1, 0));
+        // What dropped ahead of the one that is missing is occupied still.
+        TrainDescriber ahead = ran(new TrainDescriber(), "step 0 to 1 at drop 2 if track 1", names(5), 1, 3, 2);
+        due(5, ahead.ends(1));
+        due(1, ahead.fails(0, 0));
+        due(0, ahead.fails(1, 0));
 
         TrainDescriber y = doc.says("1 it BOBS: it comes, then its contrary, then it again;");
         // By a bob the name goes on from 1 to 2 when the track drops again.
@@ -156,6 +161,10 @@ final class EdgesOfRuns {
         Check.run(z, 1);
         due(-1, z.fails(0, 2));
         due(2, z.proof(0) + z.proof(1) + z.proof(2));
+        // Each of both comes once: the pick is repeated, then the track drops and stays so.
+        TrainDescriber once = ran(new TrainDescriber(), "step 0 to 1 at drop 1; step 1 to 2 at pick 1", names(5), 1, 101);
+        due(5, once.ends(2));
+        due(1, once.fails(0, 2));
         // Behind the next one alone, not behind all: 1 and 2 change places, and 3 comes last.
         ran(z, "step 0 to 1 at drop 1 if not track 3; step 0 to 2 at drop 1", names(), 1, 2, 3);
         due(0, z.fails(0, 2));
@@ -245,6 +254,10 @@ final class EdgesOfRuns {
         due(3, y.two(1));
         due(1, y.two(3));
         due(1, y.two(4));
+        Check.run(y, 3, 1, 2);
+        due(3, y.two(1));
+        due(1, y.two(3));
+        due(62, y.two(4));
         // A lost pair may be hidden as well.
         TrainDescriber z = ran(new TrainDescriber(), "clear 0 at drop 1; clear 0 at drop 2", names(5), 1, 2);
         due(1, z.two(2));
@@ -386,7 +399,12 @@ final class EdgesOfRuns {
         due(1, ran(z, "step 0 to 1 at drop 1; clear 5 at drop 2", names(5, 0, 0, 0, 0, 6), 1, 2).proof(3));
         // Late alone: missing and bobbing, the first event does nothing either.
         due(2, ran(new TrainDescriber(), "clear 0 at drop 1 if track 2", names(5), 1, 2).proof(3));
-        due(5, ran(new TrainDescriber(), "clear 0 at drop 1 if track 2", names(5), 9, 1, 2).proof(3));
+        TrainDescriber longer = ran(new TrainDescriber(), "clear 0 at drop 1 if track 2", names(5), 9, 1, 2);
+        due(5, longer.proof(3));
+        // None by a shorter run behind it, of which the last event can't be late.
+        Check.run(longer, 9, 1);
+        due(-1, longer.proof(3));
+        due(5, longer.proof(0));
 
         TrainDescriber w = doc.says("NONE.");
         due(-1, w.proof(0));
@@ -396,6 +414,9 @@ final class EdgesOfRuns {
             due(-1, w.proof(what));
         }
         due(2, w.proof(0));
+        ran(w, "clear 0 at drop 1", names(5), 1);
+        due(0, w.proof(3));
+        due(-1, w.proof(4));
     }
 
     private void fails() {
@@ -438,6 +459,12 @@ final class EdgesOfRuns {
         due(1, x.swaps(1, 1));
         Check.run(x, 9);
         due(0, x.swaps(0, 0));
+        // One that was late in a longer run before is none of a shorter one.
+        TrainDescriber longer = ran(new TrainDescriber(), FIRST_COME, names(5, 6), 1, 2);
+        due(2, longer.swaps(1, 0));
+        Check.run(longer, 1);
+        due(0, longer.swaps(0, 0));
+        due(-1, longer.swaps(1, 0));
 
         TrainDescriber y = doc.says("NONE.");
         due(-1, y.swaps(0, 0));
@@ -513,6 +540,10 @@ final class EdgesOfRuns {
         due(2048, x.watch());
         Check.run(x, 3);
         due(0, x.watch());
+        TrainDescriber longer = ran(new TrainDescriber(), "clear 0 at drop 1 if track 2", names(5), 1, 2);
+        due(1, longer.watch());
+        Check.run(longer, 1);
+        due(0, longer.watch());
 
         TrainDescriber y = doc.says("NONE.");
         due(-1, y.watch());
@@ -551,6 +582,20 @@ final class EdgesOfRuns {
         Check.run(y, 1, 2, 4, 5);
         due(1, y.other(3));
         due(2, y.other(4));
+        // Late alone, in a run before a shorter one.
+        TrainDescriber longer = ran(new TrainDescriber(), "clear 0 at drop 1 if track 2", names(5), 1, 2);
+        due(1, longer.other(3));
+        Check.run(longer, 1);
+        due(0, longer.other(3));
+        due(0, longer.other(4));
+        // The first fault of all.
+        Check.run(y, 2);
+        due(1, y.other(3));
+        due(0, y.other(4));
+        y.use(0);
+        Check.run(y, 2);
+        due(0, y.other(3));
+        due(1, y.other(4));
 
         TrainDescriber z = doc.says("whether all BERTHS end alike by both without a FAULT: 1, 0 (5).");
         Check.run(z, 1);

@@ -211,6 +211,15 @@ final class EdgesOfText {
         so(false, "track 1");
         so(true, "track 9");
         so(false, "signal 7");
+        // Each of the three in each place of a row.
+        so(true, "full 1 or track 2");
+        so(true, "full 1 or signal 2");
+        so(true, "track 9 and full 1");
+        so(true, "full 1 and track 9 or full 2");
+        so(true, "signal 2 or track 9 and full 1");
+        so(false, "track 9 and signal 2 or full 2");
+        so(true, "track 9 or track 2 and signal 2");
+        so(true, "not signal 2 and not track 2 and full 1");
         bad(HEAD.length() + 3, HEAD + "not");
         bad(HEAD.length() + 1, HEAD + "()");
         bad(HEAD.length() + 7, HEAD + "(full 1");
@@ -276,11 +285,40 @@ final class EdgesOfText {
         bad(5, "step 99 to 99 at drop 99");
         due(-6, Check.rules(x, "clear 0 at drop 1; clear 0 at drop 99; clear 99"));
         due(35, x.fault());
+        eachToken();
         // The end is where the text ends, not where the tape once did.
         x.feed(0x636c6561, 0x72203020, 0x61742064, 0x726f7020, 0x31202020);
         x.end(11);
         due(-6, x.rules());
         due(11, x.fault());
+    }
+
+    /** Behind each beginning of a text each token: whether it goes on is told by what may come there. */
+    private void eachToken() {
+        String plain = "not ( track signal full";
+        String[][] places = {{"", "step clear"}, {"step ", "0 11"}, {"step 0 ", "to"}, {"step 0 to ", "0 11"},
+            {"step 0 to 1 ", "at"}, {"step 0 to 1 at ", "drop pick"}, {"step 0 to 1 at drop ", "0 11 15"}, {"clear ", "0 11"},
+            {"clear 0 ", "at"}, {"clear 0 at ", "drop pick"}, {"clear 0 at pick ", "0 11 15"},
+            {"clear 0 at pick 0 ", "; if"}, {"clear 0 at pick 0 if ", plain}, {"clear 0 at pick 0 if not ", plain},
+            {"clear 0 at pick 0 if ( ", plain}, {"clear 0 at pick 0 if full ", "0 11"},
+            {"clear 0 at pick 0 if track ", "0 11 15"}, {"clear 0 at pick 0 if signal ", "0"},
+            {"clear 0 at pick 0 if full 0 ", "; and or"}, {"clear 0 at pick 0 if ( full 0 ", ") and or"},
+            {"clear 0 at pick 0 if ( full 0 ) ", "; and or"}, {"clear 0 at pick 0 if full 0 and ", plain},
+            {"clear 0 at pick 0 if full 0 or ", plain}, {"clear 0 at pick 0 ; ", "step clear"}};
+        String[] tokens = ("step clear to at drop pick if or and not track signal full 0 11 15 16 ; ( ) . x , stepp ste "
+                + "xtep stex clea clearr xlear t ato a att xt dro dropp pic pickk i iff o orr an andd no nott trac tracks"
+                + " signa signals ful fullz").split(" ");
+        for (String[] place : places) {
+            TrainDescriber x = new TrainDescriber();
+            boolean whole = (" " + place[1] + " ").contains(" ; ");
+            due(whole ? 1 : -6, Check.rules(x, place[0]));
+            due(whole ? -1 : place[0].length(), x.fault());
+            for (String token : tokens) {
+                boolean goes = (" " + place[1] + " ").contains(" " + token + " ");
+                Check.rules(x, place[0] + token);
+                due(goes ? 0 : 1, x.fault() == place[0].length() ? 1 : 0);
+            }
+        }
     }
 
     private void feed() {
@@ -372,6 +410,17 @@ final class EdgesOfText {
         due(3, Check.rules(x, many(3)));
         x.use(0);
         due(2, x.count(0));
+        // As many tests as a text has room for, again and again: each time they are read whole.
+        String large = "clear0at drop0if full1" + "or full1".repeat(47);
+        for (int i = 0; i < 6; i++) {
+            due(1, Check.rules(x, large));
+            x.interpose(0, 0, 5);
+            x.event(0, 0, 0);
+            due(0, x.event(0, 0, 1));
+            due(1, Check.rules(x, large.substring(0, large.length() - 5) + "full0"));
+            x.event(0, 0, 0);
+            due(1, x.event(0, 0, 1));
+        }
         // Those of before are gone: their clauses do nothing any more.
         Check.rules(x, "step 0 to 1 at drop 1;step 2 to 3 at drop 1");
         Check.rules(x, "clear 5 at drop 2");
