@@ -112,9 +112,18 @@ final class Answers {
         return many;
     }
 
-    /** An object with something of everything in it. */
+    /** An object with something of everything in it, a run, bytes on its tape and image 0. */
     static TrainDescriber full() {
         TrainDescriber x = new TrainDescriber();
+        fill(x);
+        Check.run(x, 2, 102, 101);
+        x.feed(0x00810082, 0x00010002, 0x00810082, 0x00010002, 0x00810082);
+        x.image(0);
+        return x;
+    }
+
+    /** Something of everything that an image keeps. */
+    static void fill(TrainDescriber x) {
         Check.rules(x, "step 0 to 1 at drop 1; step 1 to 2 at drop 2 if signal 3; clear 2 at pick 2");
         x.use(1);
         Check.rules(x, "step 0 to 2 at drop 1; clear 2 at drop 2");
@@ -145,9 +154,45 @@ final class Answers {
         x.clock(1, 10);
         x.code(1, 5, 14);
         x.forget(8);
-        Check.run(x, 2, 102, 101);
-        x.feed(0x00810082, 0x00010002, 0x00810082, 0x00010002, 0x00810082);
-        x.image(0);
-        return x;
+    }
+
+    /** Something else of everything that an image keeps, in the same places, by an object that is new or filled. */
+    static void change(TrainDescriber x) {
+        x.event(20, 2, 1);
+        x.event(21, 1, 0);
+        x.event(21, 5, 0);
+        x.signal(3, 0);
+        x.signal(4, 1);
+        x.interpose(22, 9, 30);
+        x.split(22, 9, 10, 31);
+        x.join(22, 10, 9);
+        x.lies(0, 2);
+        x.lies(3, -1);
+        x.bad(4, 0);
+        x.bad(9, 5);
+        x.forget(23);
+        x.station(1, 3);
+        x.station(9, 0);
+        x.work(9, 22, 40);
+        x.work(2, 9, 11);
+        x.interpose(24, 9, 7);
+        x.link(3, 4, 6);
+        x.link(1, 2, 60);
+        x.link(4, 5, 9);
+        for (int i = 0; i < 3; i++) {
+            x.train(21 + i);
+            x.start(i, 9 - i, 16 - i);
+        }
+        for (int i = 0; i < 4; i++) {
+            x.see(17 + i, 7, 36 + i);
+            x.due(32 + i, 9 - i, 12 + i);
+        }
+        x.clock(1, -3);
+        x.clock(2, 5);
+        x.code(1, 5, 15);
+        x.code(2, 99, 16);
+        Check.rules(x, "clear 9 at drop 9");
+        x.use(1);
+        Check.rules(x, "clear 9 at drop 9; clear 8 at drop 9; clear 7 at drop 9");
     }
 }

@@ -28,41 +28,6 @@ final class EdgesOfImages {
         calls();
     }
 
-    /** Changes something of everything that an image keeps. */
-    private static void change(TrainDescriber x) {
-        x.event(20, 2, 1);
-        x.event(21, 1, 0);
-        x.event(21, 5, 0);
-        x.signal(3, 0);
-        x.signal(4, 1);
-        x.interpose(22, 9, 30);
-        x.split(22, 9, 10, 31);
-        x.join(22, 5, 9);
-        x.cancel(22, 4);
-        x.lies(0, 2);
-        x.lies(3, -1);
-        x.bad(4, 0);
-        x.bad(9, 5);
-        x.forget(23);
-        x.station(1, 3);
-        x.station(9, 0);
-        x.work(9, 22, 40);
-        x.interpose(24, 9, 7);
-        x.link(3, 4, 6);
-        x.link(1, 2, 60);
-        x.train(13);
-        x.start(0, 2, 6);
-        x.see(9, 3, 39);
-        x.due(30, 9, 12);
-        x.clock(1, -3);
-        x.clock(2, 5);
-        x.code(1, 5, 15);
-        x.code(2, 99, 16);
-        Check.rules(x, "clear 9 at drop 9");
-        x.use(1);
-        Check.rules(x, "clear 9 at drop 9; clear 8 at drop 9; clear 7 at drop 9");
-    }
-
     private void kept() {
         TrainDescriber x = doc.says("IMAGES 0, 1 keep all but the TAPE, FAULT and the latest RUN (all that is told of it"
                 + " is as it was when it ran);");
@@ -71,12 +36,15 @@ final class EdgesOfImages {
             List<Integer> asked = Answers.kept(x);
             List<Integer> told = Answers.changed(x);
             x.image(k);
-            change(x);
+            Answers.change(x);
             due(1, Answers.apart(asked, Answers.kept(x)) > 100 ? 1 : 0);
             due(0, x.back(k));
             due(0, Answers.apart(asked, Answers.kept(x)));
             due(0, Answers.apart(told, Answers.changed(x)));
         }
+        inTheSamePlaces();
+        rowsGoneAround();
+        minutesOfTrains();
         // The tape, the fault and the run go on as they are.
         TrainDescriber y = new TrainDescriber();
         y.feed(0, 0, 0, 0, 0);
@@ -100,6 +68,81 @@ final class EdgesOfImages {
         due(5, y.other(0));
         due(0, y.other(5));
         due(5, y.proof(0));
+    }
+
+    /** From an image in which all is otherwise, back to the first. */
+    private void inTheSamePlaces() {
+        TrainDescriber x = new TrainDescriber();
+        x.image(1);
+        Answers.fill(x);
+        x.image(0);
+        List<Integer> asked = Answers.kept(x);
+        List<Integer> told = Answers.changed(x);
+        x.back(1);
+        Answers.change(x);
+        List<Integer> otherAsked = Answers.kept(x);
+        List<Integer> otherTold = Answers.changed(x);
+        x.image(1);
+        for (int i = 0; i < 2; i++) {
+            x.back(0);
+            due(0, Answers.apart(asked, Answers.kept(x)));
+            due(0, Answers.apart(told, Answers.changed(x)));
+            x.back(1);
+            due(0, Answers.apart(otherAsked, Answers.kept(x)));
+            due(0, Answers.apart(otherTold, Answers.changed(x)));
+        }
+    }
+
+    /** The log and the events have gone around when the image is kept, and go on from there when it is back. */
+    private void rowsGoneAround() {
+        TrainDescriber x = new TrainDescriber();
+        for (int i = 0; i < 77; i++) {
+            x.interpose(i, 3, 1 + i);
+            x.event(i, i % 16, i / 16 % 2);
+        }
+        x.image(1);
+        List<Integer> asked = Answers.kept(x);
+        for (int i = 0; i < 33; i++) {
+            x.interpose(100 + i, 3, 1 + i);
+            x.event(100 + i, 0, i % 2);
+        }
+        x.back(1);
+        due(0, Answers.apart(asked, Answers.kept(x)));
+        x.interpose(80, 3, 500);
+        x.event(81, 0, 1);
+        due(500, x.log(0, 4));
+        due(77, x.log(1, 4));
+        due(81, x.came(0, 0));
+        due(76, x.came(1, 0));
+        due(155, x.count(2));
+    }
+
+    /** Minutes of starts and of what was seen, which mendings alone tell. */
+    private void minutesOfTrains() {
+        TrainDescriber x = new TrainDescriber();
+        x.train(5);
+        x.link(0, 1, 4);
+        x.start(0, 0, 5);
+        x.see(5, 0, 5);
+        x.see(9, 1, 5);
+        due(0, x.mend(0));
+        x.image(0);
+        x.start(0, 0, 6);
+        due(-1, x.mend(0));
+        x.image(1);
+        x.clear();
+        x.train(5);
+        x.see(1, 0, 5);
+        x.see(4, 1, 5);
+        due(-1, x.mend(0));
+        x.back(0);
+        due(0, x.mend(0));
+        due(-3, x.see(8, 1, 5));
+        due(2, x.see(9, 1, 5));
+        x.back(1);
+        due(-1, x.mend(0));
+        x.start(0, 0, 5);
+        due(0, x.mend(0));
     }
 
     private void backToOne() {

@@ -479,7 +479,9 @@ final class EdgesOfMending {
         x.see(1, 1, 6);
         x.see(1, 2, 7);
         x.see(1, 0, 5);
-        int[] row = {0, 1, 2, 2, 1, 2, 0};
+        x.see(2, 2, 7);
+        x.see(2, 1, 6);
+        int[] row = {0, 1, 2, 2, 1, 2, 0, 2, 1};
         due(1, x.mend(0));
         for (int i = 0; i < row.length; i++) {
             due(row[i], x.mended(i, 0));

@@ -108,6 +108,13 @@ final class EdgesOfNames {
         z.due(5, 0, 90);
         z.due(5, 0, 110);
         due(10, z.delay(5));
+        // An earlier one that is farther is not the next, whichever was told first.
+        TrainDescriber farther = new TrainDescriber();
+        farther.interpose(100, 0, 5);
+        farther.due(5, 0, 50);
+        farther.due(5, 0, 99);
+        farther.due(5, 0, 49);
+        due(1, farther.delay(5));
         TrainDescriber far = new TrainDescriber();
         far.due(5, 0, 0);
         far.interpose(9999, 0, 5);
@@ -640,6 +647,9 @@ final class EdgesOfNames {
         due(980, x.lost(39, 1, 1));
         due(999, x.lost(39, 1, 20));
         due(999, x.lost(0, 1, 0));
+        // Of how many there are i tells nothing.
+        due(21, x.lost(39, 0, -1));
+        due(21, x.lost(39, 0, MAX));
         x.interpose(0, 0, 980);
         due(20, x.lost(39, 0, 0));
         due(981, x.lost(39, 1, 1));
@@ -820,6 +830,9 @@ final class EdgesOfNames {
         for (int i = 0; i < 40; i++) {
             due(64 + i, x.could(11, 1, i));
         }
+        // Of how many there are i tells nothing.
+        due(40, x.could(11, 0, -1));
+        due(40, x.could(11, 0, MIN));
         x.interpose(0, 0, 103);
         due(1, x.could(0, 0, 0));
         due(103, x.could(0, 1, 0));

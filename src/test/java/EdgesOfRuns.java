@@ -219,6 +219,10 @@ final class EdgesOfRuns {
         TrainDescriber moved = ran(new TrainDescriber(), "step 0 to 1 at drop 1", names(5), 1);
         due(1, moved.fails(0, 0));
         due(0, moved.swaps(0, 0));
+        TrainDescriber last = ran(new TrainDescriber(), "step 10 to 11 at drop 1",
+                names(0, 0, 0, 0, 0, 0, 0, 0, 0, 0, 5), 1);
+        due(1, last.fails(0, 0));
+        due(0, last.swaps(0, 0));
         // Three berths, all full in both.
         TrainDescriber round = ran(new TrainDescriber(),
                 "step 0 to 3 at drop 1; step 1 to 0 at drop 1; step 2 to 1 at drop 1; step 3 to 2 at drop 1",
@@ -246,6 +250,12 @@ final class EdgesOfRuns {
         due(1, x.two(0));
         due(2, x.two(1));
         due(3, x.two(2));
+
+        // By what comes behind the second one a name ends in a berth that it had not reached by then.
+        TrainDescriber behind = ran(new TrainDescriber(), "step 0 to 1 at drop 1; step 0 to 3 at drop 3", names(5), 1, 2, 3);
+        due(1, behind.two(0));
+        due(2, behind.two(1));
+        due(0, behind.two(2));
 
         TrainDescriber y = doc.says("HIDDEN are those of TWO that are not HELD, though each of them MISSING alone is.");
         ran(y, "step 0 to 1 at drop 1; step 0 to 1 at drop 2; step 3 to 4 at drop 3", names(5, 0, 0, 6), 1, 2, 3);
@@ -459,6 +469,8 @@ final class EdgesOfRuns {
         due(1, x.swaps(1, 1));
         Check.run(x, 9);
         due(0, x.swaps(0, 0));
+        // Of how many there are i tells nothing.
+        due(0, x.swaps(0, -1));
         // One that was late in a longer run before is none of a shorter one.
         TrainDescriber longer = ran(new TrainDescriber(), FIRST_COME, names(5, 6), 1, 2);
         due(2, longer.swaps(1, 0));
