@@ -5,9 +5,10 @@ import java.util.List;
 import java.util.Map;
 import java.util.Random;
 
-/** Rows of calls on the class and on the plain model, the numbers often at an edge: each answer is the same. */
+/** Rows of calls on the class and on the plain model, numbers often at an edge, and whole runs: all answers are alike. */
 public final class AgainstModelTest {
     private static final int SEEDS = 420;
+    private static final int RUNS = 400;
     private static final int CALLS = 512;
     private static final int FAR = Integer.MAX_VALUE;
 
@@ -52,7 +53,43 @@ public final class AgainstModelTest {
             test.play();
             check.due("seed " + seed + test.told, 0, test.differs ? 1 : 0);
         }
+        for (int seed = 0; seed < RUNS; seed++) {
+            AgainstModelTest test = new AgainstModelTest(seed);
+            test.playRun();
+            check.due("run of seed " + seed + test.told, 0, test.differs ? 1 : 0);
+        }
         check.end();
+    }
+
+    /** A board, two sets of rules and a run, of which all is asked. */
+    private void playRun() throws Exception {
+        for (int i = 0; i < 60; i++) {
+            callWith(i % 3 == 0 ? "event mtf" : i % 3 == 1 ? "interpose mbn" : "signal sf");
+        }
+        for (int set = 0; set < 2; set++) {
+            call("use", set);
+            feed(textBytes());
+            call("rules");
+        }
+        feed(rowBytes());
+        call("run");
+        callWith("use f");
+        for (int i = 0; i < 61; i++) {
+            for (int kind = 0; kind < 3; kind++) {
+                call("fails", i, kind);
+            }
+        }
+        for (int i = 0; i < 13; i++) {
+            call("ends", i);
+            call("proof", i);
+            call("swaps", 1, i);
+            call("other", i);
+        }
+        for (int what = 0; what < 5; what++) {
+            call("two", what);
+        }
+        call("swaps", 0, 0);
+        call("watch");
     }
 
     private void play() throws Exception {

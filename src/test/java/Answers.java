@@ -1,7 +1,10 @@
 import java.util.ArrayList;
 import java.util.List;
 
-/** Every answer that tells of an object, so that two moments of it can be compared. */
+/**
+ * Every answer that tells of an object, so that two moments of it can be compared. These are more than the 512 calls
+ * that the document promises answers for; the class answers all of them alike.
+ */
 final class Answers {
     private Answers() {
     }

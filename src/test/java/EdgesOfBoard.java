@@ -1,18 +1,10 @@
 /** Promises 1 to 17. */
-final class EdgesOfBoard {
-    private static final int MIN = Integer.MIN_VALUE;
-    private static final int MAX = Integer.MAX_VALUE;
-
-    private final Ledger doc;
-
+final class EdgesOfBoard extends Edges {
     EdgesOfBoard(Ledger doc) {
-        this.doc = doc;
+        super(doc);
     }
 
-    private void due(long want, long got) {
-        doc.due(want, got);
-    }
-
+    @Override
     void all() {
         newObject();
         lies();

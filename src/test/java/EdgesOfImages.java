@@ -2,20 +2,12 @@ import java.util.List;
 import java.util.function.ToIntFunction;
 
 /** Of Terms V what images keep; promises 53 to 56; the 512 calls of an object. */
-final class EdgesOfImages {
-    private static final int MIN = Integer.MIN_VALUE;
-    private static final int MAX = Integer.MAX_VALUE;
-
-    private final Ledger doc;
-
+final class EdgesOfImages extends Edges {
     EdgesOfImages(Ledger doc) {
-        this.doc = doc;
+        super(doc);
     }
 
-    private void due(long want, long got) {
-        doc.due(want, got);
-    }
-
+    @Override
     void all() {
         doc.section("Terms");
         kept();

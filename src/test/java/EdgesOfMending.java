@@ -1,18 +1,10 @@
 /** Terms IV; promises 31 to 37. */
-final class EdgesOfMending {
-    private static final int MIN = Integer.MIN_VALUE;
-    private static final int MAX = Integer.MAX_VALUE;
-
-    private final Ledger doc;
-
+final class EdgesOfMending extends Edges {
     EdgesOfMending(Ledger doc) {
-        this.doc = doc;
+        super(doc);
     }
 
-    private void due(long want, long got) {
-        doc.due(want, got);
-    }
-
+    @Override
     void all() {
         doc.section("Terms");
         links();

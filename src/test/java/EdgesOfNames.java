@@ -1,19 +1,12 @@
 /** Terms V but for images; promises 38 to 52. */
-final class EdgesOfNames {
-    private static final int MIN = Integer.MIN_VALUE;
-    private static final int MAX = Integer.MAX_VALUE;
+final class EdgesOfNames extends Edges {
     private static final int NOTHING = -100000;
 
-    private final Ledger doc;
-
     EdgesOfNames(Ledger doc) {
-        this.doc = doc;
+        super(doc);
     }
 
-    private void due(long want, long got) {
-        doc.due(want, got);
-    }
-
+    @Override
     void all() {
         doc.section("Terms");
         timetable();

@@ -1,23 +1,16 @@
 import java.util.List;
 
 /** Terms III; promises 23 to 30. */
-final class EdgesOfRuns {
-    private static final int MIN = Integer.MIN_VALUE;
-    private static final int MAX = Integer.MAX_VALUE;
+final class EdgesOfRuns extends Edges {
     /** Which of two names comes to 2 and which to 3 hangs on what drops first. */
     private static final String FIRST_COME = "step 0 to 2 at drop 1 if not full 2; step 0 to 3 at drop 1;"
             + "step 1 to 2 at drop 2 if not full 2; step 1 to 3 at drop 2";
 
-    private final Ledger doc;
-
     EdgesOfRuns(Ledger doc) {
-        this.doc = doc;
+        super(doc);
     }
 
-    private void due(long want, long got) {
-        doc.due(want, got);
-    }
-
+    @Override
     void all() {
         doc.section("Terms");
         rows();

@@ -3,20 +3,12 @@ import java.util.List;
 import java.util.function.ToIntFunction;
 
 /** Terms I, and of Terms II what events, the log, kin and works are. */
-final class EdgesOfTerms {
-    private static final int MIN = Integer.MIN_VALUE;
-    private static final int MAX = Integer.MAX_VALUE;
-
-    private final Ledger doc;
-
+final class EdgesOfTerms extends Edges {
     EdgesOfTerms(Ledger doc) {
-        this.doc = doc;
+        super(doc);
     }
 
-    private void due(long want, long got) {
-        doc.due(want, got);
-    }
-
+    @Override
     void all() {
         doc.section("Terms");
         constants();

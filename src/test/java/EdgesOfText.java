@@ -1,19 +1,12 @@
 /** Of Terms II what a text of rules is; promises 18 to 22. */
-final class EdgesOfText {
-    private static final int MIN = Integer.MIN_VALUE;
-    private static final int MAX = Integer.MAX_VALUE;
+final class EdgesOfText extends Edges {
     private static final String HEAD = "clear 0 at drop 1 if ";
 
-    private final Ledger doc;
-
     EdgesOfText(Ledger doc) {
-        this.doc = doc;
+        super(doc);
     }
 
-    private void due(long want, long got) {
-        doc.due(want, got);
-    }
-
+    @Override
     void all() {
         doc.section("Terms");
         sets();

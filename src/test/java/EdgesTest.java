@@ -4,13 +4,11 @@ import java.nio.file.Path;
 public final class EdgesTest {
     public static void main(String[] args) throws Exception {
         Ledger doc = new Ledger(Path.of("../shared/DOC.md"));
-        new EdgesOfTerms(doc).all();
-        new EdgesOfBoard(doc).all();
-        new EdgesOfText(doc).all();
-        new EdgesOfRuns(doc).all();
-        new EdgesOfMending(doc).all();
-        new EdgesOfNames(doc).all();
-        new EdgesOfImages(doc).all();
+        Edges[] parts = {new EdgesOfTerms(doc), new EdgesOfBoard(doc), new EdgesOfText(doc), new EdgesOfRuns(doc),
+            new EdgesOfMending(doc), new EdgesOfNames(doc), new EdgesOfImages(doc)};
+        for (Edges part : parts) {
+            part.all();
+        }
         doc.end();
     }
 }

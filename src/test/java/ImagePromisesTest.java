@@ -1,4 +1,3 @@
-import java.util.ArrayList;
 import java.util.List;
 import java.util.Random;
 
@@ -75,74 +74,13 @@ public final class ImagePromisesTest {
         due("54 the run stays", 1, x.fails(0, 0));
     }
 
-    /** Every answer that tells of what an image keeps. */
+    /** Every answer that tells of what an image keeps, by runs of both sets too. */
     private static List<Integer> answers(TrainDescriber x) {
-        List<Integer> all = new ArrayList<>();
-        for (int b = 0; b < 12; b++) {
-            for (int what = 0; what < 3; what++) {
-                all.add(x.berth(b, what));
-                all.add(x.truth(b, what));
-            }
-            for (int i = -1; i < 5; i++) {
-                all.add(x.could(b, i < 0 ? 0 : 1, i));
-            }
-            for (int minute = 0; minute < 60; minute++) {
-                all.add(x.closed(b, minute));
-            }
-            int was = x.station(b, -1);
-            all.add(was);
-            x.station(b, was);
-        }
-        for (int t = 0; t < 16; t++) {
-            all.add(x.track(t));
-            all.add(x.since(t));
-            all.add(x.held(200, 100, t));
-        }
-        for (int i = 0; i < 101; i++) {
-            for (int what = 0; what < 5; what++) {
-                all.add(x.came(i, what));
-                all.add(x.log(i, what));
-            }
-        }
-        for (int s = 0; s < 8; s++) {
-            int was = x.signal(s, 0);
-            all.add(was);
-            x.signal(s, was);
-        }
-        for (int name = 0; name < 40; name++) {
-            all.add(x.kin(name, 0));
-            all.add(x.kin(name, 1));
-            all.add(x.delay(name));
-            all.add(x.platform(name));
-            all.add(x.way(name, -1));
-            all.add(x.way(name, 1));
-            all.add(x.found(name, 300));
-        }
-        for (int i = 0; i < 16; i++) {
-            all.add(x.mended(i, 0));
-            all.add(x.mended(i, 1));
-            all.add(x.lost(100, 1, i));
-        }
-        for (int what = 0; what < 12; what++) {
-            all.add(what == 7 ? 0 : x.count(what));
-            all.add(x.alarms(what));
-            all.add(x.mend(what));
-        }
-        for (int box = 0; box < 3; box++) {
-            int was = x.clock(box, 0);
-            all.add(was);
-            x.clock(box, was);
-            for (int code = 0; code < 4; code++) {
-                int name = x.code(box, code, 1);
-                all.add(name);
-                x.code(box, code, name);
-            }
-        }
+        List<Integer> all = Answers.kept(x);
+        all.addAll(Answers.changed(x));
         int set = x.use(0);
-        all.add(set);
         for (int use = 0; use < 2; use++) {
             x.use(use);
-            all.add(x.count(0));
             Check.run(x, 0, 1, 2, 3, 4, 5, 100, 101, 102, 103, 104, 105);
             for (int b = 0; b < 12; b++) {
                 all.add(x.ends(b));

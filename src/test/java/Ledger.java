@@ -89,7 +89,7 @@ final class Ledger {
         StackTraceElement[] trace = Thread.currentThread().getStackTrace();
         StringBuilder where = new StringBuilder();
         for (StackTraceElement frame : trace) {
-            if (frame.getClassName().startsWith("Edges") && !frame.getMethodName().equals("main")) {
+            if (frame.getClassName().startsWith("EdgesOf")) {
                 where.append(' ').append(frame.getFileName()).append(':').append(frame.getLineNumber());
             }
         }
