@@ -10,7 +10,7 @@ import java.util.TreeSet;
 
 /**
  * The document once more, sentence by sentence, with lists and maps and no thought of room or speed: what it answers is
- * what the class has to answer. It is written without a look at the class.
+ * what the class has to answer. It shares no code with the class, yet the same reading of what the document leaves open.
  */
 final class PlainModel {
     /** All that an image keeps. */
