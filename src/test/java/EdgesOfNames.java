@@ -48,6 +48,17 @@ final class EdgesOfNames extends Edges {
         due(40, x.lost(9999, 0, 0));
         due(0, x.lost(9998, 0, 0));
         due(40, x.lost(9999, 1, 39));
+        // All 40 are looked at, and no more of them.
+        x.station(4, 3);
+        x.interpose(9990, 4, 40);
+        x.interpose(9990, 5, 41);
+        due(-9, x.delay(40));
+        due(4, x.platform(40));
+        due(1, x.could(4, 0, 0));
+        due(39, x.lost(9999, 0, 0));
+        due(-100000, x.delay(41));
+        due(-1, x.platform(41));
+        due(0, x.could(5, 0, 0));
     }
 
     private void delays() {

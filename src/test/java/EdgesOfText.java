@@ -76,6 +76,12 @@ final class EdgesOfText extends Edges {
         due(399, x.fault());
         due(-6, Check.rules(x, clause + " ".repeat(382) + ";"));
         due(400, x.fault());
+        // No text has more tokens than one of 400 signs that each are one.
+        due(-6, Check.rules(x, ";".repeat(400)));
+        due(0, x.fault());
+        due(-6, Check.rules(x, clause + ")".repeat(383)));
+        due(17, x.fault());
+        due(1, x.count(0));
     }
 
     private void tokens() {
